@@ -524,7 +524,7 @@ public final class ErrataLand {
         if (why != FINE) {
             return no(why);
         }
-        return yes(Search.worth(land.lineAt(line), rowIn(tray, n), 0, 0, turns, x, y));
+        return yes(Search.gameOf(land.lineAt(line), rowIn(tray, n), turns, x, y));
     }
 
     public int moveOf(int tray, int n, int line, int x, int y, int turns) {
@@ -908,16 +908,16 @@ public final class ErrataLand {
             return (int) (row >>> (4 * k)) & 15;
         }
 
-        /** The k-th WORD becomes another one, of a ROW of k WORDS it is a new last one. */
+        /** The k-th WORD becomes another one; behind the last one, a new last one. */
         static long with(long row, int k, int word) {
             long words = row & ~(15L << (4 * k)) & ALL_WORDS | (long) word << (4 * k);
-            return (long) Math.max(size(row), k + 1) << 32 | words;
+            return Math.max(row >>> 32, k + 1) << 32 | words;
         }
 
         static long without(long row, int k) {
             long ahead = (1L << (4 * k)) - 1;
             long words = row & ALL_WORDS;
-            return (long) (size(row) - 1) << 32 | words & ahead | words >>> 4 & ~ahead;
+            return (row >>> 32) - 1 << 32 | words & ahead | words >>> 4 & ~ahead;
         }
 
         /** A WORD comes to place k, what stood from there on goes one place on. */
@@ -925,13 +925,13 @@ public final class ErrataLand {
             long ahead = (1L << (4 * k)) - 1;
             long words = row & ALL_WORDS;
             long behind = (words & ~ahead) << 4;
-            return (long) (size(row) + 1) << 32 | words & ahead | (long) word << (4 * k) | behind;
+            return (row >>> 32) + 1 << 32 | words & ahead | (long) word << (4 * k) | behind;
         }
 
         static int find(long row, int word) {
-            int size = size(row);
+            int size = (int) (row >>> 32);
             for (int k = 0; k < size; k++) {
-                if (wordAt(row, k) == word) {
+                if ((row >>> (4 * k) & 15) == word) {
                     return k;
                 }
             }
@@ -1117,8 +1117,9 @@ public final class ErrataLand {
 
         /** All WORDS in its EDITS. */
         int wordSet() {
-            int set = soughtSet();
+            int set = 0;
             for (int i = 0; i < count; i++) {
+                set |= 1 << wordOf(editAt(i));
                 if (kindOf(editAt(i)) != DELETE) {
                     set |= 1 << otherOf(editAt(i));
                 }
@@ -1129,7 +1130,10 @@ public final class ErrataLand {
         long putRight(long row) {
             long made = row;
             for (int i = 0; i < count; i++) {
-                made = doneOrNot(made, editAt(i));
+                long next = done(made, editAt(i));
+                if (next != Rows.NO_ROW) {
+                    made = next;
+                }
             }
             return made;
         }
@@ -1147,10 +1151,12 @@ public final class ErrataLand {
             int set = 0;
             long made = row;
             for (int i = 0; i < count; i++) {
-                if (done(made, editAt(i)) == Rows.NO_ROW) {
+                long next = done(made, editAt(i));
+                if (next == Rows.NO_ROW) {
                     set |= 1 << i;
+                } else {
+                    made = next;
                 }
-                made = doneOrNot(made, editAt(i));
             }
             return set;
         }
@@ -1259,8 +1265,12 @@ public final class ErrataLand {
             return Rows.NO_ROW;
         }
 
-        /** What a GAME is worth if so many turns were done, and the EDITS of a set. */
-        static int worth(Line line, long row, int used, int turn, int turns, int x, int y) {
+        static int gameOf(Line line, long row, int turns, int x, int y) {
+            return worth(line, row, 0, 0, turns, x, y);
+        }
+
+        /** What a GAME is worth from a turn on, when the EDITS of a set are done. */
+        private static int worth(Line line, long row, int used, int turn, int turns, int x, int y) {
             if (turn >= turns || turn >= MOST_TURNS) {
                 return Rows.howOften(row, x) - Rows.howOften(row, y);
             }
@@ -1277,7 +1287,7 @@ public final class ErrataLand {
         }
 
         static int firstMove(Line line, long row, int turns, int x, int y) {
-            int best = worth(line, row, 0, 0, turns, x, y);
+            int best = gameOf(line, row, turns, x, y);
             for (int i = 0; i < line.count; i++) {
                 long made = Line.doneOrNot(row, line.editAt(i));
                 if (worth(line, made, 1 << i, 1, turns, x, y) == best) {
@@ -1554,11 +1564,13 @@ public final class ErrataLand {
         int putAllRight() {
             int changed = 0;
             for (int person = 0; person < people; person++) {
-                long row = rowNextDay(person, rowAt(person));
-                if (row != rowAt(person)) {
+                Line line = lineAt(placeAt(person));
+                long row = rowAt(person);
+                long next = line.lost ? row : line.putRight(row);
+                if (next != row) {
                     changed++;
+                    say(person, next);
                 }
-                say(person, row);
             }
             return changed;
         }
@@ -1953,30 +1965,30 @@ public final class ErrataLand {
             into.clear();
             boolean oddsTold = false;
             for (int parts = 0; parts <= Tape.ROOM && !tape.isEnded(); parts++) {
-                if (oddsTold && tape.isKeyword(Tape.ODDS)) {
-                    return tape.failed(5);
+                boolean read;
+                switch (tape.keyword) {
+                    case Tape.ODDS:
+                        read = oddsTold ? tape.failed(5) : readsOdds(tape, into);
+                        oddsTold = true;
+                        break;
+                    case Tape.WORD:
+                        read = readsWord(tape, into);
+                        break;
+                    case Tape.LINE:
+                        read = readsLine(tape, into);
+                        break;
+                    case Tape.PERSON:
+                        read = readsPerson(tape, into);
+                        break;
+                    default:
+                        read = tape.misplaced();
+                        break;
                 }
-                oddsTold = oddsTold || tape.isKeyword(Tape.ODDS);
-                if (!readsPart(tape, into) || !tape.takesSemicolon()) {
+                if (!read || !tape.takesSemicolon()) {
                     return false;
                 }
             }
             return true;
-        }
-
-        private static boolean readsPart(Tape tape, Land into) {
-            switch (tape.keyword) {
-                case Tape.ODDS:
-                    return readsOdds(tape, into);
-                case Tape.WORD:
-                    return readsWord(tape, into);
-                case Tape.LINE:
-                    return readsLine(tape, into);
-                case Tape.PERSON:
-                    return readsPerson(tape, into);
-                default:
-                    return tape.misplaced();
-            }
         }
 
         private static boolean readsOdds(Tape tape, Land into) {
@@ -2015,15 +2027,12 @@ public final class ErrataLand {
                 return false;
             }
             into.addLine(number);
-            return readsEdits(tape, into, into.lineAt(into.lineCount - 1));
-        }
-
-        private static boolean readsEdits(Tape tape, Land land, Line into) {
+            Line made = into.lineAt(into.lineCount - 1);
             for (int edits = 0; edits <= Line.MOST_EDITS && beginsEdit(tape); edits++) {
-                if (into.count >= Line.MOST_EDITS) {
+                if (edits == Line.MOST_EDITS) {
                     return tape.failed(6);
                 }
-                if (!readsEdit(tape, land, into)) {
+                if (!readsEdit(tape, into, made)) {
                     return false;
                 }
             }
@@ -2043,7 +2052,13 @@ public final class ErrataLand {
             }
             int other = 0;
             if (kind != Line.DELETE) {
-                other = readsOther(tape, land, kind, word);
+                if (!tape.takesKeyword(kind == Line.FOR ? Tape.READ : Tape.INSERT)) {
+                    return false;
+                }
+                if (kind == Line.FOR && tape.seeWord(land) == word) {
+                    return tape.failed(5);
+                }
+                other = tape.takeWord(land);
                 if (other == NONE) {
                     return false;
                 }
@@ -2061,18 +2076,6 @@ public final class ErrataLand {
                 return Line.FOR;
             }
             return keyword == Tape.DELETE ? Line.DELETE : Line.AFTER;
-        }
-
-        /** The second WORD of an EDIT, or NONE behind a FAULT. */
-        private static int readsOther(Tape tape, Land land, int kind, int word) {
-            if (!tape.takesKeyword(kind == Line.FOR ? Tape.READ : Tape.INSERT)) {
-                return NONE;
-            }
-            if (kind == Line.FOR && tape.seeWord(land) == word) {
-                tape.failed(5);
-                return NONE;
-            }
-            return tape.takeWord(land);
         }
 
         private static boolean readsPerson(Tape tape, Land into) {
@@ -2119,7 +2122,20 @@ public final class ErrataLand {
         static boolean reads(Tape tape, Land land, Years into) {
             into.clear();
             for (int i = 0; i <= Years.LONGEST && !(tape.isEnded() && into.depth == 0); i++) {
-                if (!readsOperation(tape, land, into) || !tape.takesSemicolon()) {
+                boolean read;
+                if (tape.isKeyword(Tape.END_WORD) && into.depth > 0) {
+                    tape.advance();
+                    read = into.end();
+                } else if (!beginsStep(tape.keyword)) {
+                    read = tape.misplaced();
+                } else if (into.steps >= Years.MOST_STEPS) {
+                    read = tape.failed(6);
+                } else if (beginsBlock(tape.keyword) && into.depth >= Years.DEEPEST) {
+                    read = tape.failed(7);
+                } else {
+                    read = readsStep(tape, land, into);
+                }
+                if (!read || !tape.takesSemicolon()) {
                     return false;
                 }
             }
@@ -2127,23 +2143,8 @@ public final class ErrataLand {
             return true;
         }
 
-        private static boolean readsOperation(Tape tape, Land land, Years into) {
-            int keyword = tape.keyword;
-            if (keyword == Tape.END_WORD && into.depth > 0) {
-                tape.advance();
-                return into.end();
-            }
-            if (!beginsStep(keyword)) {
-                return tape.misplaced();
-            }
-            if (into.steps >= Years.MOST_STEPS) {
-                return tape.failed(6);
-            }
-            if ((keyword == Tape.WHEN || keyword == Tape.LOOP) && into.depth >= Years.DEEPEST) {
-                return tape.failed(7);
-            }
-            tape.advance();
-            return readsStep(keyword, tape, land, into);
+        private static boolean beginsBlock(int keyword) {
+            return keyword == Tape.WHEN || keyword == Tape.LOOP;
         }
 
         private static boolean beginsStep(int keyword) {
@@ -2162,7 +2163,9 @@ public final class ErrataLand {
             }
         }
 
-        private static boolean readsStep(int keyword, Tape tape, Land land, Years into) {
+        private static boolean readsStep(Tape tape, Land land, Years into) {
+            int keyword = tape.keyword;
+            tape.advance();
             int told;
             switch (keyword) {
                 case Tape.DAY:
@@ -2207,21 +2210,17 @@ public final class ErrataLand {
             if (person == NONE) {
                 return false;
             }
-            if (test == Tape.LONG) {
-                return readsComparison(person, tape, into);
+            if (test == Tape.HAS) {
+                int word = tape.takeWord(land);
+                return word != NONE && into.begin(test, person, word, 0);
             }
-            int word = tape.takeWord(land);
-            return word != NONE && into.begin(test, person, word, 0);
-        }
-
-        private static boolean readsComparison(int person, Tape tape, Years into) {
             int sign = tape.value;
             if (tape.kind != Tape.SIGN || sign == ';') {
                 return tape.misplaced();
             }
             tape.advance();
             int bound = tape.takeNumberIn(0, Rows.LONGEST);
-            return bound != NONE && into.begin(Tape.LONG, person, sign, bound);
+            return bound != NONE && into.begin(test, person, sign, bound);
         }
     }
 
@@ -2229,7 +2228,7 @@ public final class ErrataLand {
     private static final class Life {
         private static final int TOLD = 5;
         private static final int MOST_STEPS = 300;
-        /** Far above the STEPS and the ends between them: at most 99 ends stand between two STEPS, and 3 more. */
+        /** Far above the STEPS and the ends between them, of which there are most in a loop of nothing. */
         private static final int MOST_TURNS = 1000000;
 
         /** For each loop that is being done, how often it is still due. */
@@ -2298,24 +2297,37 @@ public final class ErrataLand {
             return at + 1;
         }
 
+        /** Does a STEP, counts it if it is MISSED: the place of what comes next. */
         private int behindStep(Land land, int at) {
             int step = land.plan.operationAt(at);
+            int first = Years.firstOf(step);
+            boolean done = true;
             switch (Years.kindOf(step)) {
+                case Tape.DAY:
+                    done = daysGo(land, first);
+                    break;
+                case Tape.GO:
+                    done = personGoes(land, first, Years.secondOf(step));
+                    break;
+                case Tape.LOSE:
+                    done = lineBecomes(land, first, true);
+                    break;
+                case Tape.FIND:
+                    done = lineBecomes(land, first, false);
+                    break;
+                case Tape.ANY:
+                    done = anyGoes(land);
+                    break;
                 case Tape.LOOP:
                     if (at >= 0 && at < rounds.length) {
-                        rounds[at] = Years.firstOf(step);
+                        rounds[at] = first;
                     }
-                    return at + 1;
-                case Tape.LOST:
-                case Tape.HAS:
-                case Tape.LONG:
-                    return holds(land, step) ? at + 1 : land.plan.partnerOf(at) + 1;
+                    break;
                 default:
-                    if (!isDone(land, step)) {
-                        missed++;
-                    }
-                    return at + 1;
+                    return holds(land, step) ? at + 1 : land.plan.partnerOf(at) + 1;
             }
+            missed += done ? 0 : 1;
+            return at + 1;
         }
 
         private static boolean holds(Land land, int step) {
@@ -2335,22 +2347,6 @@ public final class ErrataLand {
                     return compared > 0;
                 default:
                     return compared == 0;
-            }
-        }
-
-        private boolean isDone(Land land, int step) {
-            int first = Years.firstOf(step);
-            switch (Years.kindOf(step)) {
-                case Tape.DAY:
-                    return daysGo(land, first);
-                case Tape.GO:
-                    return personGoes(land, first, Years.secondOf(step));
-                case Tape.LOSE:
-                    return lineBecomes(land, first, true);
-                case Tape.FIND:
-                    return lineBecomes(land, first, false);
-                default:
-                    return anyGoes(land);
             }
         }
 
