@@ -159,6 +159,15 @@ public final class BehindTest {
         C.due(y, "clashAt(3, 4, 0)", y.clashAt(3, 4, 0), 3, 0);
         C.due(y, "clashAt(3, 4, 1)", y.clashAt(3, 4, 1), 3, 0);
         C.due(y, "clashAt(4, 3, 1)", y.clashAt(4, 3, 1), 3, 0);
+        // a b b: by the first a a, and then a; by the second nothing is left
+        ErrataLand z = asking("line 1 delete b for b read a passim;line 3 delete a delete b passim;"
+            + "line 5 delete b delete b for b read a passim;");
+        C.due(z, "clash(0, 1): a b b", z.clash(0, 1), 3, 0);
+        for (int k = 0; k < 3; k++) {
+            C.due(z, "clashAt(0, 1, " + k + ")", z.clashAt(0, 1, k), k == 0 ? 0 : 1, 0);
+        }
+        C.no(z, "clash(2, 1): a b b b is too long", z.clash(2, 1), 8);
+        C.no(z, "clashAt(2, 1, 0)", z.clashAt(2, 1, 0), 8);
     }
 
     private static void game() {

@@ -174,6 +174,8 @@ public final class LinesTest {
         C.due(x, "circles of what is there but once", x.circles(0, 2, 2), 2, 0);
         C.due(x, "circles until there is no room", x.circles(0, 1, 3), 8, 0);
         C.due(x, "circles of nothing", x.circles(0, 0, 3), 1, 0);
+        ErrataLand y = asking("line 1 for c read d for b read c for d read b after c insert a;", 3);
+        C.due(y, "circles of many", y.circles(0, 1, 0), 16, 0);
         x.lose(0, true);
         C.due(x, "circles, lost", x.circles(0, 2, 0), 2, 0);
     }

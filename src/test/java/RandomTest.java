@@ -37,7 +37,7 @@ public final class RandomTest {
     }
 
     public static void main(String[] args) throws Exception {
-        int runs = args.length > 0 ? Integer.parseInt(args[0]) : 400;
+        int runs = args.length > 0 ? Integer.parseInt(args[0]) : 1000;
         RandomTest test = new RandomTest(args.length > 1 ? Long.parseLong(args[1]) : 20261118L);
         for (int run = 0; run < runs; run++) {
             if (!test.runOnce()) {
@@ -263,7 +263,7 @@ public final class RandomTest {
         List<String> made = new ArrayList<>();
         words = random.nextInt(40) == 0 ? 9 : 1 + random.nextInt(random.nextInt(3) == 0 ? 8 : 4);
         if (random.nextInt(3) != 0) {
-            add(made, "odds", "" + random.nextInt(random.nextInt(20) == 0 ? 18 : 17), ";");
+            add(made, "odds", "" + (random.nextInt(20) == 0 ? 17 : random.nextInt(17)), ";");
         }
         for (int i = 0; i < words; i++) {
             add(made, "word", NAMES[i], ";");

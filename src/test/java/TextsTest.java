@@ -104,6 +104,7 @@ public final class TextsTest {
         taken("line 0001;line 999;", 2);
         taken("word abcdefgh; word oddsx; word dayx;", 0);
         taken("odds 0016;", 0);
+        taken("word azyb;word a;word z;", 0);
         faulty("line 00001;", 1, 5);
         faulty("odds 12345;", 1, 5);
         faulty("word Abc;", 1, 5);
@@ -130,6 +131,7 @@ public final class TextsTest {
         faulty("odds 3", 2, 6);
         faulty("odds 3 \n", 2, 8);
         faulty("odds 3 3;", 2, 7);
+        faulty("odds 3 59", 2, 7);
         faulty("odds 17;", 4, 5);
         faulty("odds a;", 2, 5);
         faulty("odds 1; odds 99999;", 5, 8);
@@ -169,6 +171,8 @@ public final class TextsTest {
         faulty(ab + "line 1 for c read c;", 3, 25);
         faulty(ab + "line 1 for a read for;", 2, 32);
         faulty(ab + "line 1 for a b;", 2, 27);
+        faulty(ab + "line 1 for a;", 2, 26);
+        faulty(ab + "line 1 after a;", 2, 28);
         faulty(ab + "line 1 for a insert b;", 2, 27);
         faulty(ab + "line 1 after a read b;", 2, 29);
         faulty(ab + "line 1 after a insert b passim;", 2, 38);

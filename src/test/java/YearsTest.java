@@ -14,6 +14,7 @@ public final class YearsTest {
         faultsOfTests();
         faultsOfMany();
         steps();
+        anew();
         missed();
         daysAndChanges();
         tests();
@@ -189,6 +190,25 @@ public final class YearsTest {
         live(SLIP, "", 0, 0, 0, 0, 0, 0, 0);
         C.due(x, "live again, what it became stays", x.live(0), 5, 0);
         C.due("lived(0): his own, and a loss of what is lost", x.lived(0), 2);
+    }
+
+    /** What one life counts is not in the next one, and what a mean tried out is in no slip behind it. */
+    private static void anew() {
+        C.about("promises 54 to 56, anew");
+        ErrataLand x = live(SLIP, "loop 99;lose 9;find 9;find 9;go ann 10;day 1;go ann 9;end;", 0, 300, 50, 50, 99, 2, 1);
+        C.yes(x, "mean", x.mean(0, 1));
+        Checks.years(x, "loop 1;lose 10;day 9;");
+        C.due(x, "slip", Checks.slip(x, "word a;line 1 delete a;line 2 delete a;person p at 1;"), 2, 0);
+        int[] many = {1, 2, 1, 2, 0, 0, 2, 0};
+        for (int what = 0; what < many.length; what++) {
+            C.due(x, "many(" + what + ")", x.many(what), many[what], 0);
+        }
+        C.due("years", Checks.years(x, "any;stop;"), 2);
+        C.due(x, "live(0)", x.live(0), 2, 0);
+        int[] lived = {1, 0, 0, 0, 0};
+        for (int what = 0; what < lived.length; what++) {
+            C.due(x, "lived(" + what + ")", x.lived(what), lived[what], 0);
+        }
     }
 
     private static void missed() {
