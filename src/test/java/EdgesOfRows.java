@@ -157,6 +157,17 @@ final class EdgesOfRows {
         Edges.land(WORDS + "line 1;", 1).row(0, 3, 3, 3, 3, 3, 3, 3, 3).gives("game(0, 8, 0, 3, 0, 4)", 8).gives("game(0, 8, 0, 0, 3, 4)", -8);
     }
 
+    /**
+     * a: the first inserts an a, the second makes a b of one, and there is nothing left. Were it nothing that the first did,
+     * b were all there is, for then there is no a to insert one behind.
+     */
+    static void p47_noEditTwice() {
+        Edges.terms("one does an EDIT of the LINE that was not done in the GAME yet (in VAIN or not), or nothing:");
+        Run x = Edges.land(WORDS + "line 1 for a read b after a insert a;line 2 after a insert a for a read b;", 2).row(0, 0);
+        x.gives("game(0, 1, 0, 0, 1, 3)", 0).gives("moveOf(0, 1, 0, 0, 1, 3)", 1);
+        x.gives("game(0, 1, 1, 0, 1, 3)", 0).gives("moveOf(0, 1, 1, 0, 1, 3)", 0);
+    }
+
     static void p47_refused() {
         Edges.promise(47, "(1; 2: LINE, WORDS; 3; 4; 5: one WORD and itself, turns, too).");
         Run x = Edges.land(WORDS + "line 1 delete a;", 1).wrongRows("game(T, N, 0, 0, 1, 1)");

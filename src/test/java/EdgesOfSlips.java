@@ -85,7 +85,7 @@ final class EdgesOfSlips {
     static void p10_inPlaceOfThatAhead() {
         Edges.terms("A SLIP that is taken is there in place of that ahead; it is DAY 0, no LINE is LOST; there are no YEARS.");
         Run x = Edges.land("odds 9;word a;word b;line 1 delete a;line 2;person p at 1 says a b;person q at 2;", 2);
-        x.years("day 1;", 1).does("day(5)", "lose(0, true)", "lose(1, true)").slip("word b;line 3;line 4 delete b;person a at 3;", 2);
+        x.years("day 1;", 1).does("day(5)", "lose(0, true)", "lose(1, true)", "mean(0, 1)").slip("word b;line 3;line 4 delete b;person a at 3;", 2);
         int[] due = {1, 2, 1, 2, 0, 0, 1, 0};
         for (int what = 0; what < due.length; what++) {
             x.gives("many(" + what + ")", due[what]);
@@ -139,6 +139,10 @@ final class EdgesOfSlips {
         Edges.terms("SIGNS ; < > =");
         for (String sign : "; < > =".split(" ")) {
             faulty("word " + sign, 2, 5);
+        }
+        // 59 to 62 are the signs' numbers
+        for (String other : "< > = 59 60 61 62".split(" ")) {
+            faulty("word a " + other, 2, 7);
         }
         for (String other : ": ? , . @ /".split(" ")) {
             faulty("word " + other, 1, 5);
@@ -196,12 +200,14 @@ final class EdgesOfSlips {
         x.gives("edit(0, 0, 2)", 1).gives("edit(0, 1, 2)", 0).refused("edit(0, 2, 2)", 8).refused("edit(0, 3, 2)", 8);
         x.gives("edit(1, 0, 0)", 2).gives("edit(1, 0, 1)", 0).gives("edit(1, 0, 2)", 1).gives("edit(1, 0, 3)", 0);
         faulty(ahead + "for a;", 2, 26);
+        faulty(ahead + "for a b;", 2, 27);
         faulty(ahead + "for a insert b;", 2, 27);
         faulty(ahead + "for a read;", 2, 31);
         faulty(ahead + "for a read b passim passim;", 2, 41);
         faulty(ahead + "delete;", 2, 27);
         faulty(ahead + "delete a read b;", 2, 30);
         faulty(ahead + "after a;", 2, 28);
+        faulty(ahead + "after a b;", 2, 29);
         faulty(ahead + "after a read b;", 2, 29);
         faulty(ahead + "after a insert;", 2, 35);
         faulty(ahead + "after a insert b passim;", 2, 38);

@@ -65,6 +65,7 @@ final class EdgesOfYears {
         x.refused("years(" + LEAST + ")", 5).gives("live(0)", 1).gives("lived(1)", 5).gives("years(300)", 1);
         x.badYears("day 0;", 4, 4).gives("live(0)", 1).gives("lived(1)", 1);
         Edges.land(SLIP, 3).badYears("day 0;", 4, 4).refused("live(0)", 8);
+        Edges.land(SLIP, 3).badYears("loop 1;when lost 9;day", 2, 22).years("stop;", 1).badYears("loop 1;", 2, 7).years("", 0);
     }
 
     static void p11_steps() {
@@ -272,6 +273,15 @@ final class EdgesOfYears {
         lives("loop 5;day 1;when lost 9;stop;end;lose 9;end;day 1;", 0, 7, 0, 2);
     }
 
+    /** So many STEPS and ends as 300 bytes can hold. */
+    static void p54_thirtyStepsAndTheirEnds() {
+        Edges.terms("loop NUMBER ; {STEP} end ;");
+        String text = "loop 1;end;".repeat(24) + "loop 2;day 1;end;any;any;any;any;";
+        Run x = Edges.land("line 1;", 1);
+        x.years(text, 30).gives("live(0)", 31).gives("lived(0)", 4).gives("lived(1)", 2);
+        lives(Edges.land("line 1;", 1), "loop 1;loop 1;loop 2;day 1;end;end;end;".repeat(6) + "day 20;", 0, 31, 0, 32);
+    }
+
     static void p54_atMost300Steps() {
         Edges.terms("At most 300 STEPS (when, loop count as one each time they are come to from ahead; end does not).");
         lives(NEARLY, 0, 298, 0, 297, 0, 2, 0);
@@ -336,7 +346,8 @@ final class EdgesOfYears {
         lives(NEARLY + "day 1;stop;day 1;", 0, 300, 0, 298, 0, 2, 0);
         lives(NEARLY + "day 1;day 1;stop;", 0, 300, 0, 299, 0, 2, 1);
         lives(NEARLY + "day 1;day 1;when lost 9;end;", 0, 300, 0, 299, 0, 2, 1);
-        lives("loop 99;" + NEARLY + "end;", 0, 300, 0, 297, 0, 2, 1);
+        Run x = lives("loop 99;" + NEARLY + "end;", 0, 300, 0, 297, 0, 2, 1);
+        lives(x, "day 1;", 0, 1, 0, 1, 0, 0, 0);
     }
 
     static void p55_refused() {
@@ -347,8 +358,9 @@ final class EdgesOfYears {
     }
 
     /**
-     * The one PERSON goes to LINE 1, where his word is deleted, by the seeds of which the second draw by 2 is 1: 1 and 9,999
-     * (9,325 / 8 = 1,165, 53,579 / 8 = 6,697), not 0, 2 and 9,998 (3,730; 54,342 / 8 = 6,792; 8,562 / 8 = 1,070).
+     * The one PERSON goes to LINE 1, where his word is deleted, by the seeds of which the second draw by 2 is 1: 1, 3, 4 and
+     * 9,999 (9,325 / 8 = 1,165; 33,823 / 8 = 4,227; 13,304 / 8 = 1,663; 53,579 / 8 = 6,697), not 0, 2 and 9,998 (3,730;
+     * 54,342 / 8 = 6,792; 8,562 / 8 = 1,070).
      */
     static void p56_mean() {
         Edges.promise(56, "The FRACTION is the mean of how many WORDS all PEOPLE say behind the YEARS, by so many seeds (1 to 20) from one on (all stays "
@@ -356,7 +368,7 @@ final class EdgesOfYears {
         Run x = Edges.land("word a;line 1;line 2 delete a;person p at 1 says a;", 2).years("any;day 1;", 2);
         x.gives("mean(0, 1)", 1).fraction(1, 1).gives("mean(1, 1)", 1).fraction(0, 1).gives("mean(0, 2)", 1).fraction(1, 2);
         x.gives("mean(0, 3)", 1).fraction(2, 3).gives("mean(9998, 1)", 1).fraction(1, 1).gives("mean(9999, 1)", 1).fraction(0, 1);
-        x.gives("mean(9998, 2)", 1).fraction(1, 2).gives("placeOf(0)", 0).gives("many(4)", 0).says(0, "0").refused("lived(0)", 8);
+        x.gives("mean(9998, 2)", 1).fraction(1, 2).gives("mean(3, 2)", 1).fraction(0, 1).gives("placeOf(0)", 0).gives("many(4)", 0).says(0, "0").refused("lived(0)", 8);
         x.gives("live(1)", 2).gives("placeOf(0)", 1);
     }
 
