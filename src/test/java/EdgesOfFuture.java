@@ -74,6 +74,14 @@ final class EdgesOfFuture {
         x.does("day(7)").gives("silentIn(1)", 0);
     }
 
+    /** On DAY 2 a b d d d d d d, on DAY 9 eight a's, and one less each DAY on (EdgesOfLines has all of it). */
+    static void p52_inSeventeenDays() {
+        Edges.promise(52, "In how many DAYS (0 to 500) he says nothing first");
+        Run x = Edges.land("word a;word b;word d;line 1 delete a after b insert a for b read a for d read b;"
+            + "person p at 1 says d d d d d d d d;", 1);
+        x.gives("silentIn(0)", 17).gives("saysFirst(0, 0)", 2).gives("longIn(0, 9)", 8).gives("longIn(0, 16)", 1).gives("longIn(0, 17)", 0);
+    }
+
     static void p52_refused() {
         Edges.promise(52, "(2; 8: in none).");
         Run x = Edges.land(SLIP, 3).refused("silentIn(0)", 8).refused("silentIn(2)", 8).refused("silentIn(4)", 2).refused("silentIn(-1)", 2);

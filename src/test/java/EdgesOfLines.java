@@ -183,7 +183,17 @@ final class EdgesOfLines {
         x.does("lose(0, true)").gives("circles(0, 2, 0)", 2).gives("many(4)", 0);
     }
 
-    /** No LINE of four EDITS is known that needs more than some twenty DAYS: 8 can't be seen. */
+    /**
+     * Eight d's, DAY by DAY: b d d d d d d d, a b d d d d d d, up to a a a a a a a b on DAY 8; on DAY 9 there are eight a's,
+     * each DAY on one less, none on DAY 17, and the same on DAY 18.
+     */
+    static void p35_aLongOne() {
+        Edges.promise(35, "is first as it was on a DAY ahead");
+        Run x = Edges.land(WORDS + "line 1 delete a after b insert a for b read a for d read b;", 1).row(0, 3, 3, 3, 3, 3, 3, 3, 3);
+        x.gives("circles(0, 8, 0)", 18).gives("circles(0, 0, 0)", 1);
+    }
+
+    /** No LINE of four EDITS is known that needs more than 18 DAYS: 8 can't be seen. */
     static void p35_refused() {
         Edges.promise(35, "(1; 2; 3; 4; 5; 8: not in these).");
         Run x = Edges.land(WORDS + "line 1 delete a;", 1).wrongRows("circles(T, N, 0)");
