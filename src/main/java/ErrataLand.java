@@ -34,7 +34,9 @@ public final class ErrataLand {
     private final Land[] marks = new Land[MARKS];
     private final Life life = new Life();
     private final int[] lived = new int[Life.TOLD];
+    /** Rows for what is worked out in a call; made once, so that no call makes any. */
     private final long[] past = new long[FORESEEN + 1];
+    private final int[] fewest = new int[Rows.LONGEST + 1];
     private boolean hasLived;
     private boolean hasRead;
     private int faultKind;
@@ -394,7 +396,7 @@ public final class ErrataLand {
 
     public int second(int tray, int n, int to, int m) {
         int why = lesser(rowStatus(tray, n, true), rowStatus(to, m, true));
-        return why == FINE ? yes(Rows.distance(rowIn(tray, n), rowIn(to, m))) : no(why);
+        return why == FINE ? yes(Rows.distance(rowIn(tray, n), rowIn(to, m), fewest)) : no(why);
     }
 
     public boolean chance(int tray, int n, int line, int to, int m) {
@@ -911,7 +913,8 @@ public final class ErrataLand {
         /** The k-th WORD becomes another one; behind the last one, a new last one. */
         static long with(long row, int k, int word) {
             long words = row & ~(15L << (4 * k)) & ALL_WORDS | (long) word << (4 * k);
-            return Math.max(row >>> 32, k + 1) << 32 | words;
+            long size = row >>> 32;
+            return (size > k ? size : k + 1) << 32 | words;
         }
 
         static long without(long row, int k) {
@@ -956,10 +959,15 @@ public final class ErrataLand {
             return set;
         }
 
-        /** The fewest EDITS from a ROW to another one, by the table of those for their beginnings, a line at once. */
-        static int distance(long from, long to) {
-            int[] fewest = new int[LONGEST + 1];
+        /**
+         * The fewest EDITS from a ROW to another one, by the table of those for their beginnings, of which fewest takes
+         * a line at once.
+         */
+        static int distance(long from, long to, int[] fewest) {
             int width = Math.min(size(to), LONGEST);
+            if (width < 0 || width >= fewest.length) {
+                return NONE;
+            }
             for (int j = 0; j <= width && j < fewest.length; j++) {
                 fewest[j] = j;
             }
@@ -973,7 +981,7 @@ public final class ErrataLand {
                     diagonal = above;
                 }
             }
-            return width >= 0 && width < fewest.length ? fewest[width] : NONE;
+            return fewest[width];
         }
 
         /** The first ROW of so many WORDS out of a set. */

@@ -193,7 +193,7 @@ final class EdgesOfLines {
         x.gives("circles(0, 8, 0)", 18).gives("circles(0, 0, 0)", 1);
     }
 
-    /** No LINE of four EDITS is known that needs more than 18 DAYS: 8 can't be seen. */
+    /** No LINE needs more than 18 DAYS (NOTES.md tells how all were looked at): 8 can't be seen. */
     static void p35_refused() {
         Edges.promise(35, "(1; 2; 3; 4; 5; 8: not in these).");
         Run x = Edges.land(WORDS + "line 1 delete a;", 1).wrongRows("circles(T, N, 0)");

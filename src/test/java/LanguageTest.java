@@ -125,21 +125,27 @@ public final class LanguageTest {
         for (Method method : ErrataLand.class.getDeclaredMethods()) {
             must(Modifier.isPublic(method.getModifiers()) || !face.contains(method.getName()), "a second " + method);
         }
-        must(ErrataLand.class.getDeclaredClasses().length <= 12, "too many classes");
+        must(ErrataLand.class.getDeclaredClasses().length < 12, "too many classes");
+        fields(ErrataLand.class);
         for (Class<?> inside : ErrataLand.class.getDeclaredClasses()) {
             must(Modifier.isStatic(inside.getModifiers()), inside + " is not static");
-            int fields = 0;
-            for (Field field : inside.getDeclaredFields()) {
-                fields += Modifier.isStatic(field.getModifiers()) ? 0 : 1;
-            }
-            must(fields <= 20, inside + " has " + fields + " fields");
+            fields(inside);
             for (Method method : inside.getDeclaredMethods()) {
                 must(!face.contains(method.getName()), method + " has a name of the face");
             }
         }
     }
 
-    /** Who calls whom, by the JDK's javap where it is there. */
+    private static void fields(Class<?> one) {
+        int fields = 0;
+        for (Field field : one.getDeclaredFields()) {
+            fields += Modifier.isStatic(field.getModifiers()) ? 0 : 1;
+            must(!Modifier.isStatic(field.getModifiers()) || Modifier.isFinal(field.getModifiers()), field + " is static and not final");
+        }
+        must(fields <= 20, one + " has " + fields + " fields");
+    }
+
+    /** Who calls whom, the library, too, and who makes objects, by the JDK's javap where it is there. */
     private static void calls() throws Exception {
         Optional<ToolProvider> javap = ToolProvider.findFirst("javap");
         if (javap.isEmpty()) {
@@ -163,16 +169,18 @@ public final class LanguageTest {
     }
 
     private static void readCalls(String name, String listing, Map<String, Set<String>> called) {
-        Pattern method = Pattern.compile("^  \\S.*?([\\w$.]+)\\(.*\\).*;$");
+        Pattern method = Pattern.compile("^  (?:\\S.* )?([\\w$.]+)\\(.*\\).*;$");
         Pattern call = Pattern.compile("invoke\\w+.*// (?:Interface)?Method (\\S+?):");
         Set<String> now = new TreeSet<>();
+        boolean constructor = false;
         for (String line : listing.split("\n")) {
             Matcher begins = method.matcher(line);
             if (begins.find()) {
                 now = new TreeSet<>();
-                boolean constructor = begins.group(1).equals(name);
+                constructor = begins.group(1).equals(name);
                 called.put(name + "." + (constructor ? "\"<init>\"" : begins.group(1)), now);
             }
+            must(constructor || !line.matches(".*: (new|newarray|anewarray|multianewarray) .*"), name + " makes objects in a call: " + line);
             must(!line.contains("Exception table") && !line.contains("invokedynamic") && !line.contains("athrow"), name + line);
             Matcher calls = call.matcher(line);
             if (calls.find()) {
@@ -191,7 +199,7 @@ public final class LanguageTest {
         open.push(method);
         int deepest = 0;
         for (String to : called.getOrDefault(method, Set.of())) {
-            if (!to.equals(method) && to.startsWith("ErrataLand")) {
+            if (!to.equals(method)) {
                 deepest = Math.max(deepest, depth(to, called, open));
             }
         }
